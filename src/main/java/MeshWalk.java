@@ -776,7 +776,7 @@ public final class MeshWalk {
         }
 
         int lastButOne(int tip) {
-            return size() > 1 ? row[tail - 2] : tip;
+            return tail - head > 1 ? row[tail - 2] : tip;
         }
 
         void push(int point) {
