@@ -5,30 +5,38 @@ final class Expect {
         Object make();
     }
 
-    private int promise;
+    private String about = "";
     private int checked;
     private int wrong;
 
     void promise(int number) {
-        promise = number;
+        about = "promise " + number;
+    }
+
+    /** The words of the document that the next answers are about. */
+    void words(String words) {
+        about = "\"" + words + "\"";
     }
 
     void due(String what, Object got, Object due) {
         checked++;
         if (!got.equals(due)) {
             wrong++;
-            System.out.println("promise " + promise + ": " + what + ": " + got + ", due is " + due);
+            System.out.println(about + ": " + what + ": " + got + ", due is " + due);
+        }
+    }
+
+    /** The answer of a call, or the class of what it throws. */
+    static Object answer(Call call) {
+        try {
+            return call.make();
+        } catch (RuntimeException e) {
+            return e.getClass();
         }
     }
 
     void refused(String what, Class<? extends RuntimeException> due, Call call) {
-        Object got;
-        try {
-            got = call.make();
-        } catch (RuntimeException e) {
-            got = e.getClass();
-        }
-        due(what, got, due);
+        due(what, answer(call), due);
     }
 
     void illegal(String what, Call call) {

@@ -35,11 +35,7 @@ public final class PromisesTest {
     // ---- meshes to look at
 
     private static MeshWalk of(int... xy) {
-        MeshWalk m = new MeshWalk();
-        for (int i = 0; i < xy.length; i += 2) {
-            expect.due("add " + i / 2, m.add(xy[i], xy[i + 1]), i / 2);
-        }
-        return m;
+        return Look.of(xy);
     }
 
     private static MeshWalk square() {
@@ -52,32 +48,19 @@ public final class PromisesTest {
     }
 
     private static String triangles(MeshWalk m) {
-        StringBuilder text = new StringBuilder();
-        for (int i = 0; i < m.count(2); i++) {
-            text.append(i == 0 ? "" : ", ").append(m.corner(i, 0)).append(' ')
-                .append(m.corner(i, 1)).append(' ').append(m.corner(i, 2));
-        }
-        return text.toString();
+        return Look.triangles(m);
     }
 
     private static String turns(MeshWalk m) {
-        StringBuilder text = new StringBuilder();
-        for (int i = 0; m.turn(i) != NONE; i++) {
-            text.append(i == 0 ? "" : " ").append(m.turn(i));
-        }
-        return text.toString();
+        return Look.turns(m);
     }
 
     private static String row(MeshWalk m) {
-        StringBuilder text = new StringBuilder();
-        for (int i = 0; m.sleeve(i) != NONE; i++) {
-            text.append(i == 0 ? "" : " ").append(m.sleeve(i));
-        }
-        return text.toString();
+        return Look.row(m);
     }
 
     private static String counts(MeshWalk m) {
-        return m.count(0) + " " + m.count(1) + " " + m.count(2) + " " + m.count(3) + " " + m.count(4);
+        return Look.counts(m);
     }
 
     // ---- the promises
