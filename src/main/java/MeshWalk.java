@@ -258,10 +258,10 @@ public final class MeshWalk {
             size++;
         }
 
-        /** The point at the place of i, but not i itself. */
+        /** The point at the place of i, which is none of the points itself. */
         int pointAt(int i) {
             for (int p = 0; p < size; p++) {
-                if (p != i && xs[p] == xs[i] && ys[p] == ys[i]) {
+                if (xs[p] == xs[i] && ys[p] == ys[i]) {
                     return p;
                 }
             }

@@ -312,6 +312,7 @@ public final class BoundsTest {
         World.WALKED.refuses(expect, "on one line and no fourth", m -> m.circle(0, 4, 2, 5));
         World.ON_ONE_LINE.refuses(expect, "on one line", m -> m.circle(0, 1, 2, 3));
         circleOfWideLines();
+        circleOfEverySize();
     }
 
     private static void circleOfWideLines() {
@@ -323,6 +324,20 @@ public final class BoundsTest {
         expect.due("almost all of the far side is inside", m.circle(0, 1, 3, 4), 1);
         expect.due("not so with three in an angle", m.circle(0, 1, 5, 4), -1);
         expect.due("on it, as a corner is", m.circle(0, 1, 3, 0) + m.circle(0, 1, 3, 1) + m.circle(0, 1, 3, 3), 0);
+    }
+
+    /** The same figure at each power of two, for sums whose low digits are all 0. */
+    private static void circleOfEverySize() {
+        expect.words("Whether point d is inside the circle through a, b, c (1), on it (0), outside (-1)");
+        for (int size = 1; size <= FAR / 3; size *= 2) {
+            MeshWalk m = Look.of(0, 0, 2 * size, 0, 0, 2 * size, size, size, 2 * size, 2 * size, 3 * size, 2 * size,
+                2 * size, 2 * size + 1, 2 * size - 1, 2 * size);
+            expect.due("inside at " + size, m.circle(0, 1, 2, 3) + m.circle(1, 0, 2, 3), 2);
+            expect.due("on it at " + size, m.circle(0, 1, 2, 4) + m.circle(1, 0, 2, 4), 0);
+            expect.due("outside at " + size, m.circle(0, 1, 2, 5) + m.circle(1, 0, 2, 5), -2);
+            expect.due("one step outside at " + size, m.circle(0, 1, 2, 6), -1);
+            expect.due("one step inside at " + size, m.circle(0, 1, 2, 7), 1);
+        }
     }
 
     // ---- how many calls

@@ -16,6 +16,7 @@ public final class MeshEdgesTest {
         firstPointBesideTheLine();
         firstPointBesideALongLine();
         meshGoesAndComes();
+        nothingOfBeforeClear();
         eachPointIsACorner();
         numbersOfTriangles();
         fourOnOneCircle();
@@ -25,6 +26,9 @@ public final class MeshEdgesTest {
         linkComesAndGoesOnOneCircle();
         offTheCircleByAHair();
         oneCircleInside();
+        pointOnEachEdge();
+        linkBetweenAnyTwo();
+        linkUnderALeaningCorner();
         placesOfEveryKind();
         placesOnLinks();
         placesJustOutside();
@@ -113,6 +117,29 @@ public final class MeshEdgesTest {
         m.add(9, 0);
         expect.due("another", Look.triangles(m) + ", " + m.across(0, 0) + m.across(0, 1) + m.across(0, 2),
             "0 2 1, -1-1-1");
+    }
+
+    private static void nothingOfBeforeClear() {
+        expect.words("No points, no LINKS");
+        for (World world : new World[] {World.TWO_LINKED, World.ON_ONE_LINE, World.WALKED}) {
+            MeshWalk m = world.make();
+            int points = m.clear();
+            int[][] places = {{0, 0}, {10, 0}, {10, 10}, {0, 10}, {5, 5}};
+            for (int[] p : places) {
+                m.add(p[0], p[1]);
+            }
+            String what = "after " + world + " with " + points;
+            expect.due(what, Look.counts(m) + ", " + Look.triangles(m), "5 0 4 8 4, 0 1 4, 0 4 3, 1 2 4, 2 3 4");
+            for (int a = 0; a < 5; a++) {
+                for (int b = a + 1; b < 5; b++) {
+                    expect.due(what + ", edge " + a + " " + b, m.edge(a, b), a == 0 && b == 2 || a == 1 && b == 3 ? 0 : 1);
+                    expect.due(what + ", unlink " + a + " " + b, m.unlink(a, b), false);
+                }
+            }
+            expect.due(what + ", nothing shut", m.way(5, 1, 1, 5), 0);
+            expect.due(what + ", its row", Look.row(m), "0 1");
+            expect.due(what + ", nothing to lie on", m.add(2, 2), 5);
+        }
     }
 
     private static void eachPointIsACorner() {
@@ -364,6 +391,98 @@ public final class MeshEdgesTest {
         expect.due("in another order", late.edge(3, 6) + " " + late.edge(4, 5), "1 0");
         late.link(4, 5);
         expect.due("a link", late.edge(3, 6) + " " + late.edge(4, 5), "0 2");
+    }
+
+    // ---- whatever is added, the mesh is the one that is due
+
+    /** The words about the mesh, held against what the object tells: some 13 calls a triangle. */
+    private static void isTheMesh(String what, MeshWalk m) {
+        int size = m.count(2);
+        int hull = m.count(4);
+        expect.due(what + ": by Euler", size + " " + m.count(3), 2 * m.count(0) - 2 - hull + " " + (size * 3 + hull) / 2);
+        int outer = 0;
+        for (int i = 0; i < size; i++) {
+            int[] t = {m.corner(i, 0), m.corner(i, 1), m.corner(i, 2)};
+            expect.due(what + ": round to the left " + i, m.side(t[0], t[1], t[2]), 1);
+            for (int k = 0; k < 3; k++) {
+                int beyond = m.across(i, k);
+                outer += beyond == NONE ? 1 : 0;
+                if (beyond > i && m.edge(t[k], t[(k + 1) % 3]) == 1) {
+                    expect.due(what + ": GOOD " + i + " " + k, isGood(m, t, k, beyond), true);
+                }
+            }
+        }
+        expect.due(what + ": edges with one triangle", outer, hull);
+    }
+
+    private static boolean isGood(MeshWalk m, int[] t, int k, int beyond) {
+        int a = t[k];
+        int b = t[(k + 1) % 3];
+        int c = t[(k + 2) % 3];
+        int d = m.corner(beyond, 0) + m.corner(beyond, 1) + m.corner(beyond, 2) - a - b;
+        int in = m.circle(a, b, c, d);
+        return in < 0 || in == 0 && Math.min(a, b) < Math.min(c, d);
+    }
+
+    private static void pointOnEachEdge() {
+        expect.words("with no point on an edge but its ends: a new one on each edge");
+        for (int a = 0; a < GARDEN.length; a++) {
+            for (int b = a + 1; b < GARDEN.length; b++) {
+                MeshWalk m = garden();
+                int kind = m.edge(a, b);
+                int got = m.add((GARDEN[a][0] + GARDEN[b][0]) / 2, (GARDEN[a][1] + GARDEN[b][1]) / 2);
+                if (kind == 2) {
+                    expect.due("on link " + a + " " + b, got, NONE);
+                } else if (kind == 1) {
+                    expect.due("on edge " + a + " " + b, got, 10);
+                    expect.due("no edge over it", m.edge(a, b), 0);
+                    isTheMesh("on edge " + a + " " + b, m);
+                }
+            }
+        }
+        MeshWalk flat = Look.of(0, 0, 40, 0, 20, -10, 20, 10, -10, -11, 50, -11, -10, 11, 50, 11);
+        expect.due("near the middle of four", flat.add(20, 0), 8);
+        isTheMesh("near the middle of four", flat);
+    }
+
+    private static void linkBetweenAnyTwo() {
+        expect.words("each LINK is an edge");
+        int made = 0;
+        for (int a = 0; a < 20; a++) {
+            for (int b = a + 1; b < 20; b++) {
+                made += linkInGrid(a, b) ? 1 : 0;
+            }
+        }
+        expect.due("how many links of a grid pass no point", made, 131);
+    }
+
+    // The numbers go through the grid in leaps, so that they are in no order on its lines.
+    private static boolean linkInGrid(int a, int b) {
+        MeshWalk m = new MeshWalk();
+        for (int i = 0; i < 20; i++) {
+            int at = i * 7 % 20;
+            m.add(at % 5, at / 5);
+        }
+        boolean linked = m.link(b, a);
+        expect.due("edge " + a + " " + b, m.edge(a, b) == 2, linked);
+        isTheMesh("link " + a + " " + b, m);
+        return linked;
+    }
+
+    /** Point 2 stands below the line from the link's end to point 3, so its edge over the link can't go first. */
+    private static void linkUnderALeaningCorner() {
+        expect.words("each LINK is an edge, whatever lies in its way");
+        for (int up = -1; up <= 1; up += 2) {
+            for (int way = -1; way <= 1; way += 2) {
+                for (int from = 0; from < 2; from++) {
+                    MeshWalk m = Look.of(0, 0, way * 100, 0, way * 30, up * 2, way * 60, up * 30, way * 50, up * -30);
+                    expect.due("in its way", m.edge(2, 4) + " " + m.edge(3, 4) + " " + m.edge(0, 1), "1 1 0");
+                    expect.due("linked", m.link(from, 1 - from), true);
+                    expect.due("an edge", m.edge(0, 1), 2);
+                    isTheMesh("leaning", m);
+                }
+            }
+        }
     }
 
     // ---- where a place lies
