@@ -702,7 +702,7 @@ public final class MeshWalk {
         }
 
         // Of the edges at the left end farthest from the link (the first of such ends) one
-        // can always be flipped, and the new edge has no end as far: so this comes to an end.
+        // can always be flipped, and no new edge ends there again: so this comes to an end.
         private void flipAtPeak(int a, int b) {
             int peak = peakOf(a, b);
             for (int i = 0; i < crossing; i++) {
